@@ -223,7 +223,7 @@ public final class KiteStrings {
             case 2: return weave.placeOn(other, kite);
             case 3: return !cross ? NONE : weave.isSteep(kite, other) ? 1 : 0;
             case 4: return now.sliding(kite, other);
-            default: return cross ? now.glass[other] * weave.rubbing(now, kite, other) : 0;
+            default: return cross ? now.rubbing(kite, other, weave.isSteep(kite, other)) : 0;
         }
     }
 
@@ -233,7 +233,7 @@ public final class KiteStrings {
             case 1: return now.flyingKites();
             case 2:
                 weave.measure(now);
-                return weave.crossings;
+                return weave.crossings();
             case 3: return now.ticks;
             case 4: return now.rounds;
             case 5: return now.leader();
@@ -263,7 +263,7 @@ public final class KiteStrings {
             default:
                 // The last tick measured before it cut; what it cut crosses nothing any more.
                 weave.measure(trial);
-                return weave.crossings;
+                return weave.crossings();
         }
     }
 
@@ -500,6 +500,7 @@ public final class KiteStrings {
             System.arraycopy(from, 0, to, 0, Math.min(from.length, to.length));
         }
 
+        /** The last test is always true: there are never more. It shows that the number fits the rows. */
         boolean has(int kite) {
             return kite >= 0 && kite < kites && kite < MOST_KITES;
         }
@@ -511,9 +512,6 @@ public final class KiteStrings {
         /** Adds a kite; the caller has seen that there is room. */
         int addKite(int flyerAt, int xAt, int yAt, int glassOn, int strengthOf) {
             int kite = kites;
-            if (kite < 0 || kite >= MOST_KITES) {
-                return TOO_MANY;
-            }
             firstFlyer[kite] = flyerAt;
             firstX[kite] = xAt;
             firstY[kite] = yAt;
@@ -572,6 +570,12 @@ public final class KiteStrings {
             return 1 + Math.abs(dx[kite] - dx[other]) + Math.abs(dy[kite] - dy[other]);
         }
 
+        /** By how much a string is worn by another one that crosses it. */
+        int rubbing(int kite, int other, boolean isSteep) {
+            int once = glass[other] * sliding(kite, other);
+            return isSteep ? 2 * once : once;
+        }
+
         int wearAt(int kite, int place) {
             return wears[kite * PLACES + place];
         }
@@ -628,27 +632,31 @@ public final class KiteStrings {
         }
     }
 
-    /** Which strings of a sky cross, and where; it is measured anew, as a state has only what can't be found so. */
+    /**
+     * The crossings of a sky. Each one is noted twice, once for each of both strings, so that who wears a string
+     * and who cuts it is found in one go over the notes.
+     */
     private static final class Weave {
-        /** The place on a kite's string where it crosses that of another one, NONE if it does not. */
-        private final int[] places = new int[MOST_KITES * MOST_KITES];
-        private final boolean[] steep = new boolean[MOST_KITES * MOST_KITES];
-        int crossings;
+        private static final int MOST_NOTES = MOST_KITES * (MOST_KITES - 1);
+
+        /** The kite whose string it is, the kite whose string crosses it, and at which place. */
+        final int[] owners = new int[MOST_NOTES];
+        final int[] crossers = new int[MOST_NOTES];
+        final int[] places = new int[MOST_NOTES];
+        final boolean[] steep = new boolean[MOST_NOTES];
+        int notes;
 
         Weave() {
-            // A kite never crosses itself, and measure writes pairs alone.
-            for (int i = 0; i < MOST_KITES * MOST_KITES; i++) {
-                places[i] = NONE;
-            }
         }
 
         void measure(Sky sky) {
-            crossings = 0;
+            notes = 0;
             for (int kite = 0; kite < MOST_KITES; kite++) {
-                for (int other = kite + 1; other < MOST_KITES; other++) {
-                    setPair(kite, other, NONE, NONE, false);
-                    if (sky.isFlying(kite) && sky.isFlying(other)) {
-                        measurePair(sky, kite, other);
+                if (sky.isFlying(kite)) {
+                    for (int other = kite + 1; other < MOST_KITES; other++) {
+                        if (sky.isFlying(other)) {
+                            measurePair(sky, kite, other);
+                        }
                     }
                 }
             }
@@ -677,40 +685,54 @@ public final class KiteStrings {
                 return;
             }
             boolean isSteep = whole >= Math.abs(u1 * v1 + u2 * v2);
-            setPair(kite, other, PLACES * first / whole, PLACES * second / whole, isSteep);
-            crossings++;
+            note(kite, other, PLACES * first / whole, isSteep);
+            note(other, kite, PLACES * second / whole, isSteep);
         }
 
-        private void setPair(int kite, int other, int place, int otherPlace, boolean isSteep) {
-            places[kite * MOST_KITES + other] = place;
-            places[other * MOST_KITES + kite] = otherPlace;
-            steep[kite * MOST_KITES + other] = isSteep;
-            steep[other * MOST_KITES + kite] = isSteep;
+        private void note(int owner, int crosser, int place, boolean isSteep) {
+            if (notes < 0 || notes >= MOST_NOTES) {
+                return;
+            }
+            owners[notes] = owner;
+            crossers[notes] = crosser;
+            places[notes] = place;
+            steep[notes] = isSteep;
+            notes++;
         }
 
-        boolean cross(int kite, int other) {
-            return placeOn(kite, other) != NONE;
+        int crossings() {
+            return notes / 2;
         }
 
-        int placeOn(int kite, int other) {
-            return places[kite * MOST_KITES + other];
+        private int noteOf(int owner, int crosser) {
+            for (int i = 0; i < notes && i < MOST_NOTES; i++) {
+                if (owners[i] == owner && crossers[i] == crosser) {
+                    return i;
+                }
+            }
+            return NONE;
         }
 
-        boolean isSteep(int kite, int other) {
-            return steep[kite * MOST_KITES + other];
+        boolean cross(int owner, int crosser) {
+            return noteOf(owner, crosser) != NONE;
         }
 
-        /** By what the glass of a kite is multiplied when its string rubs at another one. */
-        int rubbing(Sky sky, int kite, int other) {
-            int sliding = sky.sliding(kite, other);
-            return isSteep(kite, other) ? 2 * sliding : sliding;
+        /** The place on the owner's string, NONE if the crosser's does not cross it. */
+        int placeOn(int owner, int crosser) {
+            int note = noteOf(owner, crosser);
+            return note == NONE ? NONE : places[note];
         }
 
-        int crossersOf(int kite) {
+        boolean isSteep(int owner, int crosser) {
+            int note = noteOf(owner, crosser);
+            return note != NONE && steep[note];
+        }
+
+        int crossersOf(int owner) {
             int set = 0;
-            for (int other = 0; other < MOST_KITES; other++) {
-                if (cross(kite, other)) {
-                    set |= 1 << other;
+            for (int i = 0; i < notes && i < MOST_NOTES; i++) {
+                if (owners[i] == owner) {
+                    set |= 1 << crossers[i];
                 }
             }
             return set;
@@ -736,21 +758,18 @@ public final class KiteStrings {
             cutKites = 0;
             scorers = 0;
             weave.measure(sky);
-            if (weave.crossings > 0) {
-                wearStrings(sky);
-                givePoints(sky);
+            wearStrings(sky);
+            givePoints(sky);
+            if (cutKites != 0) {
                 cutStrings(sky);
             }
         }
 
         private void wearStrings(Sky sky) {
-            for (int kite = 0; kite < MOST_KITES; kite++) {
-                for (int other = 0; other < MOST_KITES; other++) {
-                    if (weave.cross(kite, other)) {
-                        int by = sky.glass[other] * weave.rubbing(sky, kite, other);
-                        sky.wearDown(kite, weave.placeOn(kite, other), by);
-                    }
-                }
+            for (int i = 0; i < weave.notes; i++) {
+                int owner = weave.owners[i];
+                int by = sky.rubbing(owner, weave.crossers[i], weave.steep[i]);
+                sky.wearDown(owner, weave.places[i], by);
             }
         }
 
@@ -759,13 +778,13 @@ public final class KiteStrings {
          * crossed now. The cuts come after all points, as a kite that is cut gets its points, too.
          */
         private void givePoints(Sky sky) {
-            for (int kite = 0; kite < MOST_KITES; kite++) {
-                for (int other = 0; other < MOST_KITES; other++) {
-                    if (weave.cross(kite, other) && sky.isWornThrough(kite, weave.placeOn(kite, other))) {
-                        cutKites |= 1 << kite;
-                        scorers |= 1 << other;
-                        sky.points[other]++;
-                    }
+            for (int i = 0; i < weave.notes; i++) {
+                int owner = weave.owners[i];
+                if (sky.isWornThrough(owner, weave.places[i])) {
+                    int scorer = weave.crossers[i];
+                    sky.points[scorer]++;
+                    scorers |= 1 << scorer;
+                    cutKites |= 1 << owner;
                 }
             }
         }

@@ -10,6 +10,7 @@ final class LookTest {
         kiteTellsAll();
         kiteErrors();
         wearOfPlaces();
+        theLowestOfTheMostWorn();
         wearErrors();
         whoCrosses();
         placesOfCrossings();
@@ -74,6 +75,28 @@ final class LookTest {
         Check.due("the greatest wear", k.kite(0, 9), 10);
         Check.due("its place", k.kite(0, 10), k.crossing(0, 2, 1));
         Check.due("wear there", k.wear(0, k.crossing(0, 2, 1)), 10);
+    }
+
+    private static void theLowestOfTheMostWorn() {
+        KiteStrings k = new KiteStrings();
+        k.launch(20, 20, 32, 0, 200);
+        k.launch(19, 63, 47, 1, 200);
+        Check.due("at the second place", k.crossing(0, 1, 1), 1);
+        k.pass(2);
+        int worn = k.wear(0, 1);
+        Check.due("kite(0, 9)", k.kite(0, 9), worn);
+        Check.due("kite(0, 10)", k.kite(0, 10), 1);
+        k.step(1, 36);
+        k.land(1);
+        k.launch(36, 4, 32, 1, 200);
+        Check.due("later in the middle", k.crossing(0, 2, 1), 16);
+        for (int i = 0; i < 50 && k.wear(0, 16) < worn; i++) {
+            k.pass(1);
+        }
+        Check.due("as much", k.wear(0, 16), worn);
+        Check.due("the lowest of both", k.kite(0, 10), 1);
+        k.pass(1);
+        Check.due("the greatest of both", k.kite(0, 10), 16);
     }
 
     private static void wearErrors() {

@@ -81,6 +81,9 @@ final class SkyTest {
         Check.due("a seventh", k.launch(0, 0, 1, 0, 10), KiteStrings.TOO_MANY);
         Check.due("a wrong seventh", k.launch(0, 0, 0, 0, 10), KiteStrings.BAD_VALUE);
         Check.same("after a seventh", Check.look(k), before);
+        k.undo();
+        Check.due("a seventh is not recorded", k.count(0), 5);
+        Check.due("there is room again", k.launch(9, 9, 9, 0, 10), 5);
     }
 
     private static void orderTellsTheChange() {
@@ -202,6 +205,24 @@ final class SkyTest {
         Check.due("ticks stay", k.count(3), 3);
         Check.due("count(4)", k.count(4), 1);
         Check.due("round() again", k.round(), 2);
+        KiteStrings six = new KiteStrings();
+        for (int i = 0; i < 6; i++) {
+            six.launch(20, 20, 40, 0, 10);
+            six.order(i, 1, 1);
+            six.land(i);
+        }
+        six.round();
+        Check.due("all six are in the air", six.count(1), 63);
+        for (int i = 0; i < 6; i++) {
+            Check.due("kite " + i + " is at rest", six.kite(i, 3), 10);
+        }
+        KiteStrings low = new KiteStrings();
+        low.launch(20, 20, 47, 0, 200);
+        low.launch(19, 63, 1, 5, 200);
+        low.pass(2);
+        Check.due("the first place is worn", low.wear(0, 0) > 0 ? 1 : 0, 1);
+        low.round();
+        Check.due("not in the new round", low.wear(0, 0), 0);
         Check.due("round() in an empty sky", new KiteStrings().round(), 1);
     }
 }

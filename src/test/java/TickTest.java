@@ -17,6 +17,8 @@ final class TickTest {
         aCutStringIsGone();
         aRoundWithoutGlassCutsNobody();
         strengthIsTheEdge();
+        allSixTakePart();
+        allSixAgainstOne();
         Check.end("TickTest");
     }
 
@@ -178,6 +180,42 @@ final class TickTest {
         KiteStrings k = Check.pair(0, 10, 0, 10);
         Check.due("pass(200)", k.pass(200), 0);
         Check.due("kite(0, 9)", k.kite(0, 9), 0);
+    }
+
+    private static void allSixTakePart() {
+        KiteStrings k = new KiteStrings();
+        for (int i = 1; i <= 5; i++) {
+            k.launch(10 * i, 10 * i, 47, 0, 10);
+        }
+        k.launch(60, 0, 40, 5, 200);
+        Check.due("the last one crosses all", k.kite(5, 11), 31);
+        Check.due("five crossings", k.count(2), 5);
+        Check.due("firstCut(1)", k.firstCut(1), 0);
+        Check.due("firstCut(2)", k.firstCut(2), 32);
+        k.order(5, 0, 1);
+        Check.due("pass(1)", k.pass(1), 31);
+        Check.due("the last one moves", k.kite(5, 2), 41);
+        Check.due("it gets five points", k.kite(5, 7), 5);
+        Check.due("count(1)", k.count(1), 32);
+        Check.due("count(5)", k.count(5), 5);
+        Check.due("count(6)", k.count(6), 5);
+        Check.due("count(7)", k.count(7), 5);
+    }
+
+    private static void allSixAgainstOne() {
+        KiteStrings k = new KiteStrings();
+        for (int i = 1; i <= 5; i++) {
+            k.launch(10 * i, 10 * i, 47, 5, 200);
+        }
+        k.launch(60, 0, 40, 0, 20);
+        Check.due("the first one crosses the last one", k.kite(0, 11), 32);
+        Check.due("firstCut(0)", k.firstCut(0), 2);
+        Check.due("firstCut(1)", k.firstCut(1), 5);
+        Check.due("firstCut(2)", k.firstCut(2), 31);
+        Check.due("pass(2)", k.pass(2), 32);
+        Check.due("count(6)", k.count(6), 5);
+        Check.due("of equals the lowest", k.count(5), 0);
+        Check.due("kite(5, 8)", k.kite(5, 8), KiteStrings.CUT);
     }
 
     private static void strengthIsTheEdge() {

@@ -18,6 +18,7 @@ final class UndoTest {
         saveOverwrites();
         saveErrors();
         restoreErrors();
+        launchesAreSaved();
         savesAnEmptySky();
         Check.end("UndoTest");
     }
@@ -223,6 +224,32 @@ final class UndoTest {
         }
         Check.due("restore(0)", k.restore(0), KiteStrings.NOT_POSSIBLE);
         Check.same("after wrong restores", Check.look(k), before);
+    }
+
+    /** Where kites were launched is saved, too: the next round tells. */
+    private static void launchesAreSaved() {
+        KiteStrings k = new KiteStrings();
+        k.launch(11, 12, 13, 0, 10);
+        k.step(0, 60);
+        k.order(0, 3, 3);
+        k.pass(2);
+        k.save(0);
+        for (int i = 0; i < 4; i++) {
+            k.undo();
+        }
+        Check.due("nothing is left", k.count(0), 0);
+        k.launch(21, 22, 23, 0, 10);
+        k.restore(0);
+        k.round();
+        for (int what = 0; what < 3; what++) {
+            Check.due("restored: kite(0, " + what + ")", k.kite(0, what), 11 + what);
+        }
+        k.undo();
+        k.undo();
+        k.round();
+        for (int what = 0; what < 3; what++) {
+            Check.due("undone: kite(0, " + what + ")", k.kite(0, what), 21 + what);
+        }
     }
 
     private static void savesAnEmptySky() {

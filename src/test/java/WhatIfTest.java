@@ -74,6 +74,15 @@ final class WhatIfTest {
         KiteStrings both = Check.pair(5, 20, 5, 20);
         Check.due("both: firstCut(1)", both.firstCut(1), 0);
         Check.due("both: firstCut(2)", both.firstCut(2), 3);
+        KiteStrings again = Check.pair(5, 200, 5, 20);
+        again.launch(63, 63, 40, 0, 10);
+        again.pass(2);
+        Check.due("the first one scored", again.kite(0, 7), 1);
+        again.round();
+        again.land(0);
+        again.step(2, 0);
+        again.order(2, -3, 0);
+        Check.due("now the second one will", again.firstCut(2), 2);
         KiteStrings three = new KiteStrings();
         three.launch(20, 20, 40, 0, 10);
         three.launch(40, 0, 40, 5, 200);
@@ -254,6 +263,11 @@ final class WhatIfTest {
         k.launch(0, 60, 30, 0, 10);
         k.launch(40, 40, 20, 5, 200);
         best(k, 1, 1, -3, -1, 1);
+        // Three steps up are just enough here: 16 + 3 is above 18.5, and 16 + 2 is not.
+        KiteStrings up = new KiteStrings();
+        up.launch(0, 60, 30, 0, 10);
+        up.launch(40, 40, 16, 5, 200);
+        best(up, 1, 1, -3, 3, 1);
         // At the border it turns, but the order is told as it was given; it still has to rise to go through.
         KiteStrings border = new KiteStrings();
         border.launch(0, 60, 30, 0, 10);
