@@ -19,6 +19,7 @@ final class TickTest {
         strengthIsTheEdge();
         allSixTakePart();
         allSixAgainstOne();
+        allCrossAll();
         Check.end("TickTest");
     }
 
@@ -216,6 +217,38 @@ final class TickTest {
         Check.due("count(6)", k.count(6), 5);
         Check.due("of equals the lowest", k.count(5), 0);
         Check.due("kite(5, 8)", k.kite(5, 8), KiteStrings.CUT);
+    }
+
+    private static KiteStrings star(int glass, int strength) {
+        KiteStrings k = new KiteStrings();
+        for (int i = 0; i < 6; i++) {
+            k.launch(10 * i, 50 - 10 * i, 40, glass, strength);
+        }
+        return k;
+    }
+
+    private static void allCrossAll() {
+        KiteStrings k = star(1, 200);
+        Check.due("fifteen crossings", k.count(2), 15);
+        k.pass(1);
+        for (int i = 0; i < 6; i++) {
+            int worn = 0;
+            for (int j = 0; j < 6; j++) {
+                worn += i == j ? 0 : k.crossing(i, j, 5);
+            }
+            Check.due("kite(" + i + ", 11)", k.kite(i, 11), 63 ^ 1 << i);
+            Check.due("all wear the string of " + i, k.wear(i, 16), worn);
+            Check.due("crossing(" + i + ", .., 5)", worn > 5 ? 1 : 0, 1);
+        }
+        KiteStrings sharp = star(5, 10);
+        Check.due("all would be cut", sharp.ifPassed(1, 0), 63);
+        Check.due("with thirty points", sharp.ifPassed(1, 1), 30);
+        Check.due("firstCut(2)", sharp.firstCut(2), 63);
+        Check.due("pass(1)", sharp.pass(1), 63);
+        for (int i = 0; i < 6; i++) {
+            Check.due("kite(" + i + ", 7)", sharp.kite(i, 7), 5);
+        }
+        Check.due("count(7)", sharp.count(7), 6);
     }
 
     private static void strengthIsTheEdge() {
