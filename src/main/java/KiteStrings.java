@@ -674,11 +674,11 @@ public final class KiteStrings {
             int v2 = sky.y[other];
             int gap = sky.flyer[other] - sky.flyer[kite];
             int turn = u1 * v2 - u2 * v1;
+            int whole = Math.abs(turn);
             // As u2 and v2 are more than 0, both parts are so only if gap and turn have the same sign.
-            if (gap * turn <= 0) {
+            if (whole == 0 || gap * turn <= 0) {
                 return;
             }
-            int whole = Math.abs(turn);
             int first = Math.abs(gap) * v2;
             int second = Math.abs(gap) * u2;
             if (first >= whole || second >= whole) {
@@ -766,7 +766,7 @@ public final class KiteStrings {
         }
 
         private void wearStrings(Sky sky) {
-            for (int i = 0; i < weave.notes; i++) {
+            for (int i = 0; i < weave.notes && i < Weave.MOST_NOTES; i++) {
                 int owner = weave.owners[i];
                 int by = sky.rubbing(owner, weave.crossers[i], weave.steep[i]);
                 sky.wearDown(owner, weave.places[i], by);
@@ -778,7 +778,7 @@ public final class KiteStrings {
          * crossed now. The cuts come after all points, as a kite that is cut gets its points, too.
          */
         private void givePoints(Sky sky) {
-            for (int i = 0; i < weave.notes; i++) {
+            for (int i = 0; i < weave.notes && i < Weave.MOST_NOTES; i++) {
                 int owner = weave.owners[i];
                 if (sky.isWornThrough(owner, weave.places[i])) {
                     int scorer = weave.crossers[i];

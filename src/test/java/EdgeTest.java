@@ -72,9 +72,9 @@ final class EdgeTest {
     }
 
     private void withThree(int state) {
-        set(state);
         for (int a : VALUES) {
             for (int b : VALUES) {
+                set(state);
                 for (int c : VALUES) {
                     String values = a + ", " + b + ", " + c;
                     due("crossing " + values, real.crossing(a, b, c), model.crossing(a, b, c));

@@ -1,6 +1,9 @@
 import java.util.Random;
 
-/** All promises at once: long runs of calls, answered by the class and by the model. The runs are the same each time. */
+/**
+ * All promises at once: runs of 512 calls, the most that an object is used for, answered by the class and by the model.
+ * The runs are the same each time.
+ */
 final class ModelTest {
     private static final int RUNS = 600;
     private static final int CALLS = 512;
@@ -60,7 +63,7 @@ final class ModelTest {
     }
 
     private int someKite() {
-        int kites = Math.max(1, real.count(0));
+        int kites = Math.max(1, model.count(0));
         return random.nextInt(25) == 0 ? from(0, 5) : random.nextInt(kites);
     }
 
@@ -175,7 +178,7 @@ final class ModelTest {
 
     private boolean write(int run) {
         StringBuilder text = new StringBuilder();
-        text.append(real.count(8) == 0 ? "" : ";").append(ORDERS[random.nextInt(ORDERS.length)]);
+        text.append(model.count(8) == 0 ? "" : ";").append(ORDERS[random.nextInt(ORDERS.length)]);
         int kind = random.nextInt(12);
         if (kind == 0) {
             text.setCharAt(random.nextInt(text.length()), "0123456:;+-a!~".charAt(random.nextInt(14)));
