@@ -133,6 +133,7 @@ final class EmptyAndFullTest {
             Check.due("six: wear " + i, k.wear(i, 31), 0);
             Check.due("six: crossing " + i, k.crossing(i, (i + 1) % 6, 0), 1);
             Check.due("six: meets " + i, k.meets((i + 1) % 6, i), 0);
+            Check.due("six: bestOrder " + i, k.bestOrder(i, 1, 2), 10);
         }
         Check.due("six: order of a seventh", k.order(6, 0, 0), NO_SUCH);
         Check.due("six: kite", k.kite(6, 0), NO_SUCH);
