@@ -51,7 +51,7 @@ public final class KiteStrings {
                 || !isWithin(glass, 0, MOST_GLASS) || !isWithin(strength, LEAST_STRENGTH, MOST_STRENGTH)) {
             return BAD_VALUE;
         }
-        if (now.kites >= MOST_KITES) {
+        if (!now.hasRoom()) {
             return TOO_MANY;
         }
         history.record(now);
@@ -509,6 +509,10 @@ public final class KiteStrings {
             return has(kite) && how[kite] == IN_THE_AIR;
         }
 
+        boolean hasRoom() {
+            return kites >= 0 && kites < MOST_KITES;
+        }
+
         /** Adds a kite; the caller has seen that there is room. */
         int addKite(int flyerAt, int xAt, int yAt, int glassOn, int strengthOf) {
             int kite = kites;
@@ -572,20 +576,29 @@ public final class KiteStrings {
 
         /** By how much a string is worn by another one that crosses it. */
         int rubbing(int kite, int other, boolean isSteep) {
+            if (!has(kite) || !has(other)) {
+                return 0;
+            }
             int once = glass[other] * sliding(kite, other);
             return isSteep ? 2 * once : once;
         }
 
+        private boolean hasPlace(int kite, int place) {
+            return has(kite) && isWithin(place, 0, PLACES - 1);
+        }
+
         int wearAt(int kite, int place) {
-            return wears[kite * PLACES + place];
+            return hasPlace(kite, place) ? wears[kite * PLACES + place] : 0;
         }
 
         void wearDown(int kite, int place, int by) {
-            wears[kite * PLACES + place] += by;
+            if (hasPlace(kite, place)) {
+                wears[kite * PLACES + place] += by;
+            }
         }
 
         boolean isWornThrough(int kite, int place) {
-            return wearAt(kite, place) >= strength[kite];
+            return has(kite) && wearAt(kite, place) >= strength[kite];
         }
 
         int mostWornPlace(int kite) {
@@ -780,8 +793,8 @@ public final class KiteStrings {
         private void givePoints(Sky sky) {
             for (int i = 0; i < weave.notes && i < Weave.MOST_NOTES; i++) {
                 int owner = weave.owners[i];
-                if (sky.isWornThrough(owner, weave.places[i])) {
-                    int scorer = weave.crossers[i];
+                int scorer = weave.crossers[i];
+                if (sky.isWornThrough(owner, weave.places[i]) && sky.has(scorer)) {
                     sky.points[scorer]++;
                     scorers |= 1 << scorer;
                     cutKites |= 1 << owner;

@@ -54,7 +54,8 @@ final class ReadmeTest {
         }
         String[] codes = {"NO_SUCH", "BAD_VALUE", "BAD_TEXT", "TOO_MANY", "NOT_POSSIBLE", "NONE"};
         for (int i = 0; i < codes.length; i++) {
-            Check.due("README.md tells of " + codes[i], text.contains("\n| `" + codes[i] + "` | " + (-1 - i) + " |") ? 1 : 0, 1);
+            String row = "\n| `" + codes[i] + "` | " + (-1 - i) + " |";
+            Check.due("README.md tells of " + codes[i], text.contains(row) ? 1 : 0, 1);
         }
     }
 }

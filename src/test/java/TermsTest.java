@@ -245,10 +245,15 @@ final class TermsTest {
         Words.due("wear(0, -1)", k.wear(0, -1), NO_SUCH);
     }
 
+    private static KiteStrings pair(int[] first, int[] second) {
+        return sky(new int[] {first[0], first[1], first[2], 1, 200}, new int[] {second[0], second[1], second[2], 1, 200});
+    }
+
     private static void crosses(String what, int[] first, int[] second, int due) {
-        KiteStrings k = sky(new int[] {first[0], first[1], first[2], 0, 10}, new int[] {second[0], second[1], second[2], 0, 10});
+        KiteStrings k = pair(first, second);
         Words.due(what, k.crossing(0, 1, 0), due);
         Words.due(what + ", turned", k.crossing(1, 0, 0), due);
+        Words.due(what + ", launched in the other order", pair(second, first).crossing(0, 1, 0), due);
     }
 
     private static void crossings() {
@@ -275,7 +280,7 @@ final class TermsTest {
     }
 
     private static void places(int[] first, int[] second, int due, int dueOnOther) {
-        KiteStrings k = sky(new int[] {first[0], first[1], first[2], 0, 10}, new int[] {second[0], second[1], second[2], 0, 10});
+        KiteStrings k = pair(first, second);
         String what = "from " + second[0] + " to " + second[1] + ", " + second[2] + ": ";
         Words.due(what + "crossing(0, 1, 1)", k.crossing(0, 1, 1), due);
         Words.due(what + "crossing(0, 1, 2)", k.crossing(0, 1, 2), dueOnOther);
@@ -316,7 +321,7 @@ final class TermsTest {
             {0, 39, 40, 10, 10, 40, 0}, // (39, 40), (0, 40): 1560 and 1600
             {10, 50, 40, 50, 10, 40, 1}}; // (40, 40), (-40, 40): 3200 and 0
         for (int[] d : due) {
-            KiteStrings k = sky(new int[] {d[0], d[1], d[2], 1, 200}, new int[] {d[3], d[4], d[5], 1, 200});
+            KiteStrings k = pair(new int[] {d[0], d[1], d[2]}, new int[] {d[3], d[4], d[5]});
             String what = "from " + d[0] + " to " + d[1] + ", " + d[2] + " and from " + d[3] + " to " + d[4] + ", " + d[5];
             Words.due(what, k.crossing(0, 1, 3), d[6]);
             Words.due(what + ", turned", k.crossing(1, 0, 3), d[6]);
@@ -325,7 +330,8 @@ final class TermsTest {
 
     private static void sliding() {
         Words.says("The sliding of two kites is 1, and by how much their dx differ, and by how much their dy differ.");
-        int[][] due = {{0, 0, 0, 0, 1}, {3, 0, -3, 0, 7}, {0, -2, 0, 3, 6}, {2, 2, 2, 2, 1}, {-1, 2, 1, -3, 8}, {3, 3, -3, -3, 13}};
+        int[][] due = {
+            {0, 0, 0, 0, 1}, {3, 0, -3, 0, 7}, {0, -2, 0, 3, 6}, {2, 2, 2, 2, 1}, {-1, 2, 1, -3, 8}, {3, 3, -3, -3, 13}};
         for (int[] d : due) {
             KiteStrings k = Check.pair(1, 200, 1, 200);
             k.order(0, d[0], d[1]);
@@ -385,7 +391,8 @@ final class TermsTest {
         Words.due("not steep: the other one", flat.wear(1, 16), 4);
         flat.pass(1);
         Words.due("and more", flat.wear(0, 16), 6);
-        KiteStrings three = sky(new int[] {20, 20, 40, 1, 200}, new int[] {40, 0, 40, 2, 200}, new int[] {0, 40, 40, 3, 200});
+        KiteStrings three = sky(new int[] {20, 20, 40, 1, 200}, new int[] {40, 0, 40, 2, 200},
+            new int[] {0, 40, 40, 3, 200});
         three.pass(1);
         Words.due("all pairs: the first one", three.wear(0, 16), 2 * 2 + 2 * 3);
         Words.due("all pairs: the second one", three.wear(1, 16), 2 * 1 + 2 * 3);
@@ -414,7 +421,8 @@ final class TermsTest {
             Words.due("strength " + strength + ": how it is", k.kite(0, 8), strength <= 12 ? 1 : 0);
         }
         // At two places 8 each: no place has 10.
-        KiteStrings two = sky(new int[] {20, 20, 40, 0, 10}, new int[] {40, 0, 40, 4, 200}, new int[] {30, 0, 15, 4, 200});
+        KiteStrings two = sky(new int[] {20, 20, 40, 0, 10}, new int[] {40, 0, 40, 4, 200},
+            new int[] {30, 0, 15, 4, 200});
         Words.due("two places of less", two.pass(1), 0);
         Words.due("the one place", two.wear(0, 16), 8);
         Words.due("the other place", two.wear(0, 4), 8);
@@ -433,7 +441,8 @@ final class TermsTest {
             Words.due("points of " + kite, k.kite(kite, 7), due[kite]);
         }
         // Who crossed it there in an earlier tick alone gets none.
-        KiteStrings earlier = sky(new int[] {20, 20, 40, 0, 40}, new int[] {40, 0, 40, 5, 200}, new int[] {0, 40, 40, 5, 200});
+        KiteStrings earlier = sky(new int[] {20, 20, 40, 0, 40}, new int[] {40, 0, 40, 5, 200},
+            new int[] {0, 40, 40, 5, 200});
         Words.due("both wear it", earlier.pass(1), 0);
         earlier.land(2);
         Words.due("one of them goes on", earlier.pass(2), 1);
@@ -484,7 +493,8 @@ final class TermsTest {
         for (String text : right) {
             Words.due(text, faultOf(text), NONE);
         }
-        String[] wrong = {"6:00", "-1:00", "00:00", "0:0", "0:000", "0;00", "0:+00", "0:+4+1", "0:1+1", "0:00,0:00", "0:00;"};
+        String[] wrong = {
+            "6:00", "-1:00", "00:00", "0:0", "0:000", "0;00", "0:+00", "0:0-0", "0:+4+1", "0:1+1", "0:00,0:00", "0:00;"};
         for (String text : wrong) {
             Words.due(text, faultOf(text) == NONE ? 1 : 0, 0);
         }
@@ -510,6 +520,7 @@ final class TermsTest {
         Words.due("a digit", faultOf("0:+0+1"), 3);
         Words.due("a second step", faultOf("0:+1;"), 4);
         Words.due("a second digit", faultOf("0:+1-4"), 5);
+        Words.due("a second digit", faultOf("0:0+0"), 4);
         Words.due("a semicolon", faultOf("0:+1-1+"), 6);
         Words.due("an order", faultOf("0:+1-1;;"), 7);
         Words.due("empty", faultOf(""), 0);
